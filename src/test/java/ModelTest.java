@@ -24,12 +24,59 @@ public final class ModelTest {
 
   public static void main(String[] args) {
     int runs = args.length > 0 ? Integer.parseInt(args[0]) : 1500;
+    allRows("", 9);
+    allShapes("", 12);
     for (int run = 0; run < runs && wrong < 10; run++) {
       new Run(run).go();
     }
     System.out.println(wrong == 0 ? "ModelTest: all answers agree" : "ModelTest: wrong " + wrong);
     if (wrong != 0) {
       System.exit(1);
+    }
+  }
+
+  private static String text(String heights) {
+    StringBuilder s = new StringBuilder("L");
+    for (char h : heights.toCharArray()) {
+      s.append(h).append("20");
+    }
+    return s.toString();
+  }
+
+  private static Pair told(String text) {
+    Pair pair = new Pair();
+    for (char c : text.toCharArray()) {
+      pair.check(0, c);
+    }
+    pair.check(2);
+    return pair;
+  }
+
+  /** The fault of every row of heights 0 .. 2 up to a length. */
+  private static void allRows(String heights, int left) {
+    told(text(heights));
+    for (int h = 0; h < 3 && left > 0 && wrong == 0; h++) {
+      allRows(heights + h, left - 1);
+    }
+  }
+
+  /** In every shape up to a length each key taken out, and one put in at each place. */
+  private static void allShapes(String heights, int left) {
+    int[] row = heights.chars().map(c -> c - '0').toArray();
+    if (wrong > 0 || !Grammar.canGoOn(row)) {
+      return;
+    }
+    if (Grammar.whole(row)) {
+      Pair pair = told(text(heights));
+      pair.check(3, 1);
+      for (int key = 1; key <= 2 * row.length + 1; key++) {
+        pair.check(key % 2 == 0 ? 5 : 4, 1, key, 0);
+        pair.checkHeights(1);
+        pair.check(7);
+      }
+    }
+    for (int h = 0; h < 4 && left > 0; h++) {
+      allShapes(heights + h, left - 1);
     }
   }
 
@@ -880,19 +927,84 @@ public final class ModelTest {
     }
   }
 
-  // ---------------------------------------------------------------- runs
+  // ---------------------------------------------------------------- both side by side
 
-  private static final class Run {
-    final int number;
-    final Random draw;
+  private static final class Pair {
     final ThreeGaps real = new ThreeGaps();
     final Model model = new Model();
     final StringBuilder story = new StringBuilder();
+
+    void checkHeights(int map) {
+      for (int i = 0; i < model.maps[map].values.size(); i++) {
+        check(9, map, i, 0);
+        check(9, map, i, 2);
+      }
+    }
+
+    void check(int call, long... a) {
+      if (wrong > 0) {
+        return;
+      }
+      story.append(NAMES[call]).append(java.util.Arrays.toString(a)).append('\n');
+      long got = real(call, a);
+      long want = model.answer(call, a);
+      if (got != want) {
+        wrong++;
+        System.out.println(story + "answered " + got + ", due is " + want);
+      }
+    }
+
+    long real(int call, long[] a) {
+      int[] i = new int[4];
+      for (int k = 0; k < a.length; k++) {
+        i[k] = (int) a[k];
+      }
+      switch (NAMES[call]) {
+        case "write": return real.write(i[0]);
+        case "wipe": return real.wipe();
+        case "fault": return real.fault();
+        case "shape": return real.shape(i[0]);
+        case "put": return real.put(i[0], i[1], i[2]);
+        case "remove": return real.remove(i[0], i[1]);
+        case "cut": return real.cut(i[0], i[1], i[2]);
+        case "undo": return real.undo();
+        case "about": return real.about(i[0], i[1]);
+        case "item": return real.item(i[0], i[1], i[2]);
+        case "get": return real.get(i[0], i[1]);
+        case "span": return real.span(i[0], i[1], i[2]);
+        case "rank": return real.rank(i[0], i[1]);
+        case "near": return real.near(i[0], i[1], i[2]);
+        case "looks": return real.looks(i[0], i[1]);
+        case "sum": return real.sum(i[0], i[1], i[2]);
+        case "would": return real.would(i[0], i[1], i[2]);
+        case "best": return real.best(i[0], i[1]);
+        case "judge": return real.judge(i[0], a[1]);
+        case "share": return real.share(i[0], i[1], i[2] == 1);
+        case "seek": return real.seek(i[0], i[1], i[2]);
+        case "unseek": return real.unseek();
+        case "keys": return real.keys(i[0]);
+        case "rests": return real.rests(i[0], i[1], i[2], i[3]);
+        case "lost": return real.lost(i[0], i[1], i[2], i[3] == 1);
+        case "seed": return real.seed(a[0]);
+        case "rounds": return real.rounds(i[0], i[1]);
+        case "keep": return real.keep(i[0]);
+        case "again": return real.again(i[0]);
+        case "count": return real.count(i[0]);
+        default: throw new IllegalStateException(NAMES[call]);
+      }
+    }
+  }
+
+  // ---------------------------------------------------------------- runs
+
+  private static final class Run {
+    final Random draw;
+    final Pair pair = new Pair();
+    final Model model = pair.model;
     final int range;
     final int more;
 
     Run(int number) {
-      this.number = number;
       draw = new Random(number);
       range = new int[] {100, 100, 44, 30, 12}[draw.nextInt(5)];
       more = draw.nextInt(4);
@@ -904,7 +1016,7 @@ public final class ModelTest {
         if (call == 0) {
           calls += text() - 1;
         } else {
-          check(call, drawn(call));
+          pair.check(call, drawn(call));
         }
         if (wrong > 0) {
           return;
@@ -914,6 +1026,9 @@ public final class ModelTest {
 
     int pick() {
       int roll = draw.nextInt(100);
+      if (more == 3 && draw.nextInt(8) == 0) {
+        return 0;
+      }
       if (more == 0 ? roll < 65 : roll < 35) {
         return 4;
       }
@@ -926,7 +1041,7 @@ public final class ModelTest {
     /** A text drawn from a tree of its own, mostly with a letter or two spoiled. */
     int text() {
       if (draw.nextInt(4) == 0) {
-        check(0, new long[] {draw.nextInt(300) - 20});
+        pair.check(0, draw.nextInt(300) - 20);
         return 1;
       }
       Tree t = new Tree();
@@ -940,24 +1055,35 @@ public final class ModelTest {
         s.append(h).append(1 + draw.nextInt(4)).append(draw.nextInt(10));
       }
       for (int spoil = draw.nextInt(3); spoil > 0; spoil--) {
-        s.setCharAt(draw.nextInt(s.length()), "L0123456789:/M".charAt(draw.nextInt(14)));
+        spoil(s);
       }
       if (draw.nextInt(4) == 0) {
         s.setLength(draw.nextInt(s.length() + 1));
       }
       int calls = 3;
-      check(1, new long[0]);
+      pair.check(1);
       for (int i = 0; i < s.length(); i++) {
-        check(0, new long[] {s.charAt(i)});
+        pair.check(0, s.charAt(i));
         if (draw.nextInt(6) == 0) {
-          check(2, new long[0]);
+          pair.check(2);
           calls++;
         }
         calls++;
       }
-      check(2, new long[0]);
-      check(3, new long[] {draw.nextInt(2)});
+      pair.check(2);
+      pair.check(3, draw.nextInt(2));
       return calls;
+    }
+
+    void spoil(StringBuilder s) {
+      int item = s.length() / 3 == 0 ? 0 : 1 + 3 * draw.nextInt(s.length() / 3);
+      if (item == 0 || draw.nextInt(3) == 0) {
+        s.setCharAt(draw.nextInt(s.length()), "L0123456789:/M".charAt(draw.nextInt(14)));
+      } else if (draw.nextBoolean()) {
+        s.delete(item, item + 3);
+      } else {
+        s.insert(item, s.substring(item, Math.min(item + 3, s.length())));
+      }
     }
 
     long map() {
@@ -1048,59 +1174,6 @@ public final class ModelTest {
         row = draw.nextBoolean() ? draw.nextLong() : (long) Math.pow(10, 4 * Math.max(n, 0));
       }
       return new long[] {n, row};
-    }
-
-    void check(int call, long[] a) {
-      if (wrong > 0) {
-        return;
-      }
-      story.append(NAMES[call]).append(java.util.Arrays.toString(a)).append('\n');
-      long got = real(call, a);
-      long want = model.answer(call, a);
-      if (got != want) {
-        wrong++;
-        System.out.println("run " + number + ":\n" + story + "answered " + got + ", due is " + want);
-      }
-    }
-
-    long real(int call, long[] a) {
-      int[] i = new int[4];
-      for (int k = 0; k < a.length; k++) {
-        i[k] = (int) a[k];
-      }
-      switch (NAMES[call]) {
-        case "write": return real.write(i[0]);
-        case "wipe": return real.wipe();
-        case "fault": return real.fault();
-        case "shape": return real.shape(i[0]);
-        case "put": return real.put(i[0], i[1], i[2]);
-        case "remove": return real.remove(i[0], i[1]);
-        case "cut": return real.cut(i[0], i[1], i[2]);
-        case "undo": return real.undo();
-        case "about": return real.about(i[0], i[1]);
-        case "item": return real.item(i[0], i[1], i[2]);
-        case "get": return real.get(i[0], i[1]);
-        case "span": return real.span(i[0], i[1], i[2]);
-        case "rank": return real.rank(i[0], i[1]);
-        case "near": return real.near(i[0], i[1], i[2]);
-        case "looks": return real.looks(i[0], i[1]);
-        case "sum": return real.sum(i[0], i[1], i[2]);
-        case "would": return real.would(i[0], i[1], i[2]);
-        case "best": return real.best(i[0], i[1]);
-        case "judge": return real.judge(i[0], a[1]);
-        case "share": return real.share(i[0], i[1], i[2] == 1);
-        case "seek": return real.seek(i[0], i[1], i[2]);
-        case "unseek": return real.unseek();
-        case "keys": return real.keys(i[0]);
-        case "rests": return real.rests(i[0], i[1], i[2], i[3]);
-        case "lost": return real.lost(i[0], i[1], i[2], i[3] == 1);
-        case "seed": return real.seed(a[0]);
-        case "rounds": return real.rounds(i[0], i[1]);
-        case "keep": return real.keep(i[0]);
-        case "again": return real.again(i[0]);
-        case "count": return real.count(i[0]);
-        default: throw new IllegalStateException(NAMES[call]);
-      }
     }
   }
 }

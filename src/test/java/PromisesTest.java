@@ -330,6 +330,7 @@ public final class PromisesTest {
     due("value 1000000", x.put(0, 2, 1000000), BAD);
     due("41st", x.put(0, 1, 0), FULL);
     dueText("state", state(x), before);
+    due("the first is there already", x.put(0, 0, 5), 40);
     due("there already", x.put(0, 2, 999999), 40);
     due("value", x.get(0, 2), 999999);
     due("value 0", x.put(0, 2, 0), 40);
@@ -570,6 +571,7 @@ public final class PromisesTest {
     due("40 at 0", x.span(0, 40, 0), 1);
     due("20 at 1", x.span(0, 20, 1), 2);
     due("60 at 1", x.span(0, 60, 1), 4);
+    due("10 at 0", x.span(0, 10, 0), 1);
     due("90 at 0", x.span(0, 90, 0), 1);
     due("level", x.span(0, 90, 1), BAD);
     due("level", x.span(0, 40, 3), BAD);
@@ -605,6 +607,7 @@ public final class PromisesTest {
     due("55 up", x.near(0, 55, 1), 60);
     due("50 down", x.near(0, 50, 0), 50);
     due("50 up", x.near(0, 50, 1), 50);
+    due("10 down", x.near(0, 10, 0), 10);
     due("9 down", x.near(0, 9, 0), NONE);
     due("9 up", x.near(0, 9, 1), 10);
     due("91 down", x.near(0, 91, 0), 90);
@@ -729,6 +732,7 @@ public final class PromisesTest {
     due("full", full.best(0, 0), NONE);
     due("full", full.best(0, 1), NONE);
     due("full, what", full.best(0, 2), BAD);
+    due("0 is there", with(0).best(0, 0), 1);
     due("0 .. 2 are there", with(0, 1, 2).best(0, 0), 3);
   }
 
@@ -769,6 +773,7 @@ public final class PromisesTest {
     due("row", x.judge(3, 1000000000000L), BAD);
     due("row", x.judge(4, 10000000000000000L), BAD);
     due("row", x.judge(4, Long.MAX_VALUE), BAD);
+    due("row 0", x.judge(1, 0), 0);
     due("9999 four times", x.judge(4, 9999999999999999L), 0);
     due("a full map", x.judge(1, 1001), 0);
     due("a full map, it is there", x.judge(1, 1002), NONE);
@@ -884,6 +889,9 @@ public final class PromisesTest {
     due("the other of them, first", y.rests(0, 99, 1, 1), 1);
     // 6 looks gain as much as no put does: such a choice may be either
     dueRests("010020010010", 29, 47, 2, 10);
+    // which of both is put first matters
+    dueRests("0010001000200010", 13, 1, 1, 11);
+    dueRests("0010001000200010", 1, 13, 2, 10);
     dueRests("000100102010010", 27, 41, 2, 1);
     dueRests("010010100020100", 31, 17, 3, 1);
     dueRests("010002001020010001000", 21, 41, 4, 0);
@@ -909,6 +917,8 @@ public final class PromisesTest {
     due("both are one", x.rests(0, 2, 2, 0), BAD);
     due("what", x.rests(0, 2, 4, 2), BAD);
     due("what", x.rests(0, 1, 3, -1), BAD);
+    due("one is there", x.rests(0, 0, 3, 0), LATE);
+    due("other is there", x.rests(0, 3, 0, 0), LATE);
     due("one is there", x.rests(0, 2, 3, 0), LATE);
     due("other is there", x.rests(0, 3, 2, 0), LATE);
     due("39 items", x.rests(0, 1, 3, 0), FULL);
