@@ -148,8 +148,14 @@ public final class BoundsWouldTest {
     Kit.quiet(of(0, 98, 96, 97, 95), 11, "best", 0, 1);
   }
 
+  private static void p19NoKeyBehind99IsTried() {
+    // the same row one further on: the better place behind all has no key
+    Kit.quiet(of(0, 99, 97, 98, 96), 0, "best", 0, 0);
+    Kit.quiet(of(0, 99, 97, 98, 96), 12, "best", 0, 1);
+  }
+
   private static void p19EveryKeyIsTried() {
-    // behind 0 .. 2 and 97 .. 99 there is no place at the ends
+    // ahead of 0 and behind 99 there is no place
     bestIsTheLeastOfAll(of(0, 0, 1, 2, 97, 98, 99));
     bestIsTheLeastOfAll(of(0, 96, 97, 98));
     bestIsTheLeastOfAll(of(0, 98, 97, 96, 95, 94, 93));

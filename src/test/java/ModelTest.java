@@ -26,6 +26,7 @@ public final class ModelTest {
     int runs = args.length > 0 ? Integer.parseInt(args[0]) : 1500;
     allRows("", 9);
     allShapes("", 12);
+    sharesOfNoughtAndLess();
     for (int run = 0; run < runs && wrong < 10; run++) {
       new Run(run).go();
     }
@@ -77,6 +78,27 @@ public final class ModelTest {
     }
     for (int h = 0; h < 4 && left > 0; h++) {
       allShapes(heights + h, left - 1);
+    }
+  }
+
+  /** Drawn runs hardly ever come to such shares: few items ahead of a high fence, many behind. */
+  private static void sharesOfNoughtAndLess() {
+    int[][] puts = {
+      {31, 19, 37, 33, 21, 34, 25, 63, 62, 67, 50, 53, 81, 78, 73, 69, 54, 83, 70},
+      {23, 46, 38, 83, 55, 75, 50, 54, 51, 58, 67, 65, 49, 53, 78, 86, 79, 59, 62},
+      {9, 11, 15, 30, 54, 65, 73, 70, 61, 77, 59, 67, 63, 58, 62, 53, 49, 74}};
+    String[] heights = {"010102010103010201010", "010201010103010201010", "0102010101030102010"};
+    for (int n = 0; n < puts.length; n++) {
+      Pair pair = told(text(heights[n]).replaceAll("(.)20", "$140"));
+      pair.check(3, 0);
+      for (int key : puts[n]) {
+        pair.check(4, 0, key, 0);
+      }
+      pair.checkHeights(0);
+      for (int i = 0; i < 4; i++) {
+        pair.check(19, 0, i, 1);
+        pair.check(19, 0, i, 0);
+      }
     }
   }
 
